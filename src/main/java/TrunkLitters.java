@@ -93,7 +93,6 @@ public final class TrunkLitters {
     private int lyingCount = 0;
 
     public TrunkLitters() {
-        acts.begin(now);
     }
 
     // ---- the text ----
@@ -872,6 +871,12 @@ public final class TrunkLitters {
 
     /** Reads the TAPE into a draft, so that the HOUSE stays as it is if there is a FAULT. */
     private static final class Reader {
+        private static final int LEVEL_E = 1;
+        private static final int LEVEL_BOTH = 2;
+        private static final int LEVEL_ONE = 3;
+        private static final int LEVEL_SUM = 4;
+        private static final int LEVEL_TERM = 5;
+        private static final int LEVEL_UNIT = 6;
         private final Tape tape;
         private final long[] roomNames = new long[MOST_ROOMS];
         private final long[] trunkNames = new long[MOST_TOLD];
@@ -907,7 +912,7 @@ public final class TrunkLitters {
                     return readTrunk();
                 case BROOD:
                     draft.brood.clear();
-                    return isFirst(BROOD) && readPart(1, 0) && take(SEMICOLON);
+                    return isFirst(BROOD) && readPart(LEVEL_E, 0) && take(SEMICOLON);
                 case PINES:
                     if (!isFirst(PINES) || !readNumber(1, MOST_PINES)) {
                         return false;
@@ -1027,18 +1032,19 @@ public final class TrunkLitters {
             return true;
         }
 
-        /** A part of a formula by its level: 1 e, 2 both, 3 one, 4 sum, 5 term, 6 unit; so many others it is within. */
+        /** A part of a formula by its level, which is within so many others. */
         private boolean readPart(int level, int within) {
-            if (level >= 6) {
+            if (level >= LEVEL_UNIT) {
                 return readUnit(within);
             }
-            if (level == 3 && tape.kind == NOT) {
-                return readNot(within);
-            }
+            return level == LEVEL_ONE && tape.kind == NOT ? readNot(within) : readJoined(level, within);
+        }
+
+        private boolean readJoined(int level, int within) {
             if (!readPart(level + 1, within)) {
                 return false;
             }
-            int mostSigns = level == 3 ? 1 : MOST_UNITS;
+            int mostSigns = level == LEVEL_ONE ? 1 : MOST_UNITS;
             for (int i = 0; i < mostSigns && levelOf(tape.kind) == level; i++) {
                 int sign = tape.kind;
                 tape.advance();
@@ -1055,7 +1061,7 @@ public final class TrunkLitters {
                 return cannotStand();
             }
             tape.advance();
-            if (!readPart(3, within + 1)) {
+            if (!readPart(LEVEL_ONE, within + 1)) {
                 return false;
             }
             draft.brood.addStep(NOT, 0);
@@ -1077,7 +1083,7 @@ public final class TrunkLitters {
                 return true;
             }
             tape.advance();
-            if (!readPart(1, within + 1)) {
+            if (!readPart(LEVEL_E, within + 1)) {
                 return false;
             }
             if (tape.kind != CLOSE) {
@@ -1090,22 +1096,22 @@ public final class TrunkLitters {
         private static int levelOf(int kind) {
             switch (kind) {
                 case OR:
-                    return 1;
+                    return LEVEL_E;
                 case AND:
-                    return 2;
+                    return LEVEL_BOTH;
                 case LESS:
                 case MORE:
                 case SAME:
-                    return 3;
+                    return LEVEL_ONE;
                 case PLUS:
                 case MINUS:
-                    return 4;
+                    return LEVEL_SUM;
                 case TIMES:
                 case OVER:
                 case REST:
-                    return 5;
+                    return LEVEL_TERM;
                 default:
-                    return 0;
+                    return LEVEL_UNIT;
             }
         }
 
@@ -1559,33 +1565,45 @@ public final class TrunkLitters {
         int packAll(State s) {
             for (int most = 0; most <= plan.rooms && most <= MOST_ROOMS; most++) {
                 System.arraycopy(plan.holds, 0, space, 0, MOST_ROOMS);
-                if (stow(s, 0, 0, most)) {
+                if (stowFrom(s, 0, 0, most)) {
                     return most;
                 }
             }
             return NONE;
         }
 
-        private boolean stow(State s, int t, int used, int most) {
-            if (t < 0 || t >= PLACES) {
-                return true;
+        private boolean stowFrom(State s, int place, int used, int most) {
+            int t = Math.max(place, 0);
+            for (; t < PLACES && s.bulk[t] == 0; t++) {
+                choice[t] = NONE;
             }
-            choice[t] = NONE;
-            if (s.bulk[t] == 0) {
-                return stow(s, t + 1, used, most);
+            if (t >= PLACES) {
+                return true;
             }
             for (int r = 0; r < plan.rooms && r < MOST_ROOMS; r++) {
                 int with = used | 1 << r;
                 if (Integer.bitCount(with) <= most && space[r] >= s.bulk[t]) {
                     choice[t] = r;
-                    space[r] -= s.bulk[t];
-                    if (stow(s, t + 1, with, most)) {
+                    if (stowBehind(s, t, with, most)) {
                         return true;
                     }
-                    space[r] += s.bulk[t];
                 }
             }
             return false;
+        }
+
+        /** Whether those behind t find their ROOMS, once t is in the one that it chose; if not, it comes out again. */
+        private boolean stowBehind(State s, int t, int used, int most) {
+            int r = choice[t];
+            if (r < 0 || r >= MOST_ROOMS) {
+                return false;
+            }
+            space[r] -= s.bulk[t];
+            boolean can = stowFrom(s, t + 1, used, most);
+            if (!can) {
+                space[r] += s.bulk[t];
+            }
+            return can;
         }
 
         /** FILL as bits; sets are looked at from the least one on, so that only a better one takes its stead. */
@@ -1709,7 +1727,7 @@ public final class TrunkLitters {
         /** SPAN: from the first TRUNK on, the nearest one outside joins the tree. */
         static int leastTree(State s) {
             int outside = s.bits();
-            int joined = Integer.lowestOneBit(outside);
+            int joined = outside & -outside;
             outside &= ~joined;
             int sum = 0;
             for (int i = 0; i < PLACES && outside != 0; i++) {

@@ -91,19 +91,30 @@ public final class ModelRunsTest {
         for (int i = 0; i < 6 && (m.about(2) >> t & 1) == 0; i++) {
             t = draws.nextInt(8);
         }
-        return draws.nextInt(20) == 0 ? draws.nextInt(14) - 3 : t;
+        return draws.nextInt(20) == 0 ? odd(14) : t;
+    }
+
+    /** Mostly somewhat beside what can be, at times far from it. */
+    private int odd(int most) {
+        return switch (draws.nextInt(12)) {
+            case 0 -> Integer.MIN_VALUE;
+            case 1 -> Integer.MAX_VALUE;
+            case 2 -> draws.nextInt();
+            case 3 -> 32 * draws.nextInt(9);
+            default -> draws.nextInt(most) - 3;
+        };
     }
 
     private int room() {
-        return draws.nextInt(12) == 0 ? draws.nextInt(9) - 2 : draws.nextInt(4);
+        return draws.nextInt(12) == 0 ? odd(9) : draws.nextInt(4);
     }
 
     private int what(int most) {
-        return draws.nextInt(12) == 0 ? draws.nextInt(most + 5) - 2 : draws.nextInt(most + 1);
+        return draws.nextInt(12) == 0 ? odd(most + 6) : draws.nextInt(most + 1);
     }
 
     private int n() {
-        return draws.nextInt(12) == 0 ? draws.nextInt(40) - 4 : draws.nextInt(draws.nextBoolean() ? 8 : 31);
+        return draws.nextInt(12) == 0 ? odd(40) : draws.nextInt(draws.nextBoolean() ? 8 : 31);
     }
 
     private void act() {
@@ -145,7 +156,7 @@ public final class ModelRunsTest {
         int r = room();
         int n = n();
         int w = what(2);
-        int i = draws.nextInt(10) - 1;
+        int i = draws.nextInt(20) == 0 ? odd(12) : draws.nextInt(10) - 1;
         String to = "(" + t + ", " + o + ")";
         switch (kind) {
             case 20 -> same("room(" + r + ", " + w + ")", x.room(r, w), m.room(r, w));
@@ -212,7 +223,7 @@ public final class ModelRunsTest {
                 same("untell(" + h + ")", b(x.untell(h)), b(m.untell(h)));
             }
             default -> {
-                int by = draws.nextInt(9) == 0 ? draws.nextInt(1100) - 50 : draws.nextInt(4);
+                int by = draws.nextInt(9) == 0 ? odd(1100) : draws.nextInt(4);
                 same("later(" + by + ")", x.later(by), m.later(by));
             }
         }
