@@ -9,13 +9,12 @@ public final class SpaceTest {
     public static void main(String[] args) {
         ThreadMXBean made = (ThreadMXBean) ManagementFactory.getThreadMXBean();
         run(new TrunkLitters());
-        long id = Thread.currentThread().getId();
-        long before = made.getThreadAllocatedBytes(id);
+        long before = made.getCurrentThreadAllocatedBytes();
         TrunkLitters x = new TrunkLitters();
-        long byObject = made.getThreadAllocatedBytes(id) - before;
-        before = made.getThreadAllocatedBytes(id);
+        long byObject = made.getCurrentThreadAllocatedBytes() - before;
+        before = made.getCurrentThreadAllocatedBytes();
         int sum = run(x);
-        long byCalls = made.getThreadAllocatedBytes(id) - before;
+        long byCalls = made.getCurrentThreadAllocatedBytes() - before;
         System.out.println(byObject + " bytes by an object, " + byCalls + " by its calls (" + sum + ")");
         if (byObject > MOST_MADE || byCalls > MOST_BY_CALLS) {
             System.out.println("too much is made");
