@@ -147,7 +147,9 @@ public final class PromisesTest {
         x.later(7);
         x.year();
         x.tell(0);
-        x.image(1);
+        for (int i = 0; i < 3; i++) {
+            x.image(i);
+        }
         x.held(0, 3, true);
         x.pack();
         Texts.feed(x, HOUSE + "draw 8;");
@@ -170,7 +172,9 @@ public final class PromisesTest {
         due("trunk(0, 3)", x.trunk(0, 3), 2);
         due("trunk(1, 4)", x.trunk(1, 4), 0);
         due("lies(0)", x.lies(0), -2);
-        due("back(1)", x.back(1), -1);
+        for (int i = 0; i < 3; i++) {
+            due("back(" + i + ")", x.back(i), -1);
+        }
         due("house() of nothing", x.house(), 0);
         due("about(1)", x.about(1), 0);
         due("about(5)", x.about(5), 0);
@@ -803,6 +807,9 @@ public final class PromisesTest {
         due("fill(2, 1)", x.fill(2, 1), 0);
         due("fill(3, 1)", x.fill(3, 1), 0);
         due("fill(0, 1): all", x.fill(0, 1), 1 + 2 + 4 + 32);
+        x = told("room r holds 9;room s holds 1;trunk a bulk 1 at r marks 1;trunk b bulk 2 at r marks 1;");
+        due("fill(1, 0): the first one alone", x.fill(1, 0), 1);
+        due("fill(1, 1)", x.fill(1, 1), 1);
     }
 
     private static void promise20() {
