@@ -356,6 +356,13 @@ public final class HeldEdgesTest {
         y.held(0, 6, false);
         Edges.due("six FIT, each without one MARK", y.fits(0), 6);
         Edges.due("sure(0, 0): 62 alone has it not", y.sure(0, 0), -2);
+        // by what it did not share alone: not one with 5 is 58
+        y = Edges.told(FOUR);
+        y.held(0, 1, false);
+        Edges.due("58 FITS", y.fits(0), 1);
+        for (int k = 0; k < 6; k++) {
+            Edges.due("sure(" + k + ", 0) of 58", y.sure(k, 0), 58 >> k & 1);
+        }
         // two FIT: one has it, one has not
         y = Edges.told("9", "1/a/0 1/a/1 1/a/9", "");
         y.held(0, 5, true);

@@ -914,6 +914,30 @@ public final class TextEdgesTest {
         Edges.due("pining()", x.pining(), 0);
         x.year();
         Edges.due("pining() behind a YEAR", x.pining(), 0);
+        // nothing of a longer brood, nor of ROOMS that are no more, stays behind the end of what is told
+        String pair = Edges.text("9 9", "8/a/1 7/b/1", "");
+        for (String longer : List.of("not 5", "5 + 5", "5 and not 5", "not not 5", "5 * 5 + 5")) {
+            Edges.tell(x, "brood " + longer + ";");
+            Edges.tell(x, Edges.text("9", "1/a/1 1/a/1", "brood 5;"));
+            Edges.due("brood(0, 1): 5, behind " + longer, x.brood(0, 1), 5);
+            Edges.tell(x, "brood (" + longer + ") + (" + longer + ") and not 5;");
+            Edges.tell(x, Edges.text("9", "1/a/1 1/a/1", "brood not 0;"));
+            Edges.due("brood(0, 1): not 0, behind " + longer, x.brood(0, 1), 1);
+        }
+        Edges.tell(x, "brood not (5 + 5);");
+        Edges.tell(x, Edges.text("9", "1/a/1 1/a/1", "brood 5 + 5;"));
+        Edges.due("brood(0, 1): 5 + 5, behind not (5 + 5)", x.brood(0, 1), 10);
+        Edges.tell(x, Edges.text("9 9 99 99", "8/a/1 7/b/1", ""));
+        Edges.due("pack() in 99", x.pack(), 1);
+        Edges.due("rivals(0, 1)", x.rivals(0, 1) > 0, true);
+        Edges.tell(x, pair);
+        Edges.due("rivals(0, 1): as in the two ROOMS that there are", x.rivals(0, 1), 2);
+        Edges.lie(x, 0, 1);
+        Edges.due("pack() in the two ROOMS that there are", x.pack(), 2);
+        Edges.lie(x, 0, 1, -1, -1, -1, -1, -1, -1);
+        Edges.due("rivals(0, 1) behind pack()", x.rivals(0, 1), 2);
+        Edges.lie(x, 0, 1);
+        Edges.due("best(0, 0)", x.best(0, 0), 0);
         // who pined, and was whose young, is nobody's matter in the next HOUSE
         live(x);
         x.year();

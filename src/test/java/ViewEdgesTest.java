@@ -268,6 +268,8 @@ public final class ViewEdgesTest {
         Edges.due("15 of 19", Edges.told("20 19", "9/a/1 5/a/1 6/a/1", "").fill(1, 0), 15);
         Edges.due("one of just so much", Edges.told("20 9", "9/a/1 5/a/1", "").fill(1, 1), 1);
         Edges.due("one of one more", Edges.told("20 8", "9/a/1 5/a/1", "").fill(1, 1), 2);
+        Edges.due("the least that can be", Edges.told("20 1", "1/a/1", "").fill(1, 0), 1);
+        Edges.due("the least that can be", Edges.told("20 1", "2/a/1 1/a/1", "").fill(1, 1), 2);
         Edges.due("full as it is", Edges.told("14 8", "9/a/1 5/a/1", "").fill(0, 0), 14);
         x.lose(0);
         Edges.due("fill(0, 0) without one", x.fill(0, 0), 17);
