@@ -107,7 +107,8 @@ public final class ReadmeTest {
     /** What is fed is the text that README.md tells, set in by four blanks. */
     private static void checkToldText(int length, String line) {
         String text = tape.substring(0, Math.min(length, tape.length())).stripTrailing();
-        check(readme.contains("\n\n    " + text.replace("\n", "\n    ") + "\n\n"), "not the text told ahead of " + line);
+        String told = "\n\n    " + text.replace("\n", "\n    ") + "\n\n";
+        check(readme.contains(told), "not the text told ahead of " + line);
         tape.setLength(0);
     }
 
